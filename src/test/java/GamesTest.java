@@ -136,6 +136,12 @@ public final class GamesTest {
     }
 
     private static void withStreamers() {
+        StreamersHeld one = Check.of("p59904", "0");
+        // from 1, of the only one: RATE 3, PLACE 5, RATE 0, RATE 7, then An HOUR
+        Check.that("years() of one, 4", one.years(1, 4), 0);
+        Check.row("years() of one, 4", one, 1, 99);
+        Check.that("years() of one, 5", one.years(1, 5), 3);
+        Check.row("years() of one, 5", one, 1, 92);
         StreamersHeld x = Check.of("p50304;g79915;b99902", "k/9");
         for (int seed : new int[] {0, 1, -1, 77, Integer.MIN_VALUE, Integer.MAX_VALUE}) {
             StreamersHeld y = Check.of("p50304;g79915;b99902", "k/9");

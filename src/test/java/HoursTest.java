@@ -14,6 +14,7 @@ public final class HoursTest {
         promise14Signs();
         promise14();
         promise15();
+        promise15AllOfIt();
         promise15Fifteen();
         Check.close("HoursTest");
     }
@@ -323,6 +324,52 @@ public final class HoursTest {
         Check.that("can be undone yet", x.count(10), 1);
         Check.that("streamers()", Check.put(x, "p11111").streamers(), 1);
         Check.that("forgets", x.undo(), -1);
+    }
+
+    private static void promise15AllOfIt() {
+        StreamersHeld x = Check.of("p50534;g72015;b90002", "99*(s=9)*(n=1)");
+        x.hours(2);
+        x.drops(1);
+        x.rates(0, 4);
+        x.speed(8);
+        String was = all(x);
+        Check.that("one BROKEN, one DROPPED", x.count(5) * 10 + x.count(1), 41);
+        for (int act = 0; act < 7; act++) {
+            Check.that("act " + act, act(x, act) >= 0, true);
+            Check.that("it is otherwise", all(x).equals(was), false);
+            Check.that("four and one", x.count(10), 5);
+            Check.that("act " + act + " undone", x.undo(), 4);
+            Check.that("as ahead of it", all(x), was);
+        }
+        x.keep(1);
+        act(x, 0);
+        act(x, 3);
+        act(x, 5);
+        x.again(1);
+        Check.that("as it was kept", all(x), was);
+    }
+
+    private static int act(StreamersHeld x, int act) {
+        switch (act) {
+            case 0: return x.hours(3);
+            case 1: return x.runs(2, 7);
+            case 2: return x.rates(1, 7);
+            case 3: return x.reels(0, 7);
+            case 4: return x.drops(1);
+            case 5: return x.speed(7);
+            default: return Check.put(x, "n1p00r00m001d0s0").sailing();
+        }
+    }
+
+    private static String all(StreamersHeld x) {
+        StringBuilder all = new StringBuilder();
+        for (int what = 0; what < 7; what++) {
+            all.append(x.count(what)).append(' ');
+            for (int i = 0; i < x.count(0); i++) {
+                all.append(x.streamer(i, what)).append(' ');
+            }
+        }
+        return all.toString();
     }
 
     private static void promise15Fifteen() {

@@ -13,6 +13,7 @@ public final class SightsTest {
         promise42And43();
         promise44();
         promise45();
+        eachLaw();
         Check.close("SightsTest");
     }
 
@@ -101,6 +102,14 @@ public final class SightsTest {
         Check.that("none is left", x.looks(), -2);
         Check.row("the ROW stays", x, 1);
         Check.that("no STREAMERS", new StreamersHeld().looks(), -2);
+        x.forget();
+        x.seen(0, -3, 0);
+        Check.that("of 0", x.looks(), 0);
+        Check.row("of 0", x, 1);
+        x.forget();
+        x.seen(0, -2, 0);
+        Check.that("of 0 and 1", x.looks(), 96);
+        Check.row("of 0 and 1", x, 1);
         x = Check.of("p39999;g30000", "0");
         x.drops(1);
         x.hours(11);
@@ -238,6 +247,58 @@ public final class SightsTest {
         x.saw(4, 7, 0);
         Check.that("some of each", x.laws(), 1 + 2);
         Check.row("some of each", x, 1, 0);
+    }
+
+    /** By each law some partings are seen; which laws fit, and what to try, is gone through. */
+    private static void eachLaw() {
+        int[][] seen = {{9, 8}, {2, 1}, {5, 9}, {7, 3}, {3, 6}, {13, 9}, {10, 4}};
+        for (int law = 0; law < 40; law++) {
+            for (int many = 1; many <= seen.length; many++) {
+                StreamersHeld x = new StreamersHeld();
+                boolean[] fits = new boolean[40];
+                for (int other = 0; other < 40; other++) {
+                    fits[other] = true;
+                    for (int i = 0; i < many; i++) {
+                        fits[other] &= breaks(other, seen[i]) == breaks(law, seen[i]);
+                    }
+                }
+                for (int i = 0; i < many; i++) {
+                    x.saw(seen[i][0], seen[i][1], breaks(law, seen[i]) ? 1 : 0);
+                }
+                judge(x, fits, "law " + law + ", " + many + " seen");
+            }
+        }
+    }
+
+    private static boolean breaks(int law, int[] by) {
+        return (1 + law / 10) * by[0] > by[1] + law % 10;
+    }
+
+    private static void judge(StreamersHeld x, boolean[] fits, String what) {
+        int many = 0;
+        int least = -1;
+        for (int law = 39; law >= 0; law--) {
+            if (fits[law]) {
+                many++;
+                least = law;
+            }
+        }
+        Check.that(what + ", laws()", x.laws(), many);
+        Check.row(what + ", laws()", x, 1 + least / 10, least % 10);
+        int best = -1;
+        int fewest = 99;
+        for (int by = 0; by < 210; by++) {
+            int so = 0;
+            for (int law = 0; law < 40; law++) {
+                so += fits[law] && breaks(law, new int[] {by / 10, by % 10}) ? 1 : 0;
+            }
+            if (by % 10 != 0 && Math.max(so, many - so) < fewest) {
+                fewest = Math.max(so, many - so);
+                best = by;
+            }
+        }
+        Check.that(what + ", tries()", x.tries(), best);
+        Check.row(what + ", tries()", x, fewest);
     }
 
     private static void promise45() {

@@ -29,6 +29,13 @@ public final class StreamersTest {
         Check.that("NONE", StreamersHeld.NONE, -1);
         Check.that("new, undo()", x.undo(), -1);
         Check.that("new, again(0)", x.again(0), false);
+        Check.put(x, "p50304").streamers();
+        Check.that("at first no RULE: k", x.streamer(0, 8), 96);
+        x.hours(2);
+        Check.that("at first no RULE: k", x.streamer(0, 8), 102);
+        Check.put(x, "0");
+        Check.that("by LACK none breaks yet", x.law(), 1);
+        Check.row("by LACK one breaks", x, 1, 0, 46, 64);
     }
 
     private static void promise2() {

@@ -174,6 +174,9 @@ public final class ToComeTest {
         }
         x.drops(0);
         Check.that("a DROPPED one", x.thrift(0, 1), -2);
+        StreamersHeld y = Check.of("p39900", "0");
+        Check.that("by all", y.thrift(0, 60), 0);
+        Check.row("by all", y, 10);
         Check.that("nothing was done", x.streamer(0, 3), 0);
     }
 
@@ -195,6 +198,9 @@ public final class ToComeTest {
         x.drops(0);
         Check.that("a DROPPED one", x.mole(0, 5), 0);
         Check.row("a DROPPED one", x, 0, 0);
+        x = Check.of("p20000", "");
+        Check.that("9 is the farthest", x.mole(0, 60), 7);
+        Check.row("9 is the farthest", x, 3, 0);
         x = Check.of("p30009", "9*(p>3)");
         Check.that("its own is not the best", x.mole(0, 60), 0);
         Check.row("its own is not the best", x, 60, 0);
@@ -215,6 +221,13 @@ public final class ToComeTest {
             Check.that("slows() refused", x.slows(a[0], a[1]), -1);
         }
         Check.row("the ROW stays", x, 2, 2);
+        x = Check.of("p50000", "9*(v>-1)");
+        Check.that("0 is the slowest", x.slows(1, 1), -2);
+        x = Check.of("p50000", "9*(v<9)");
+        Check.that("9 is the fastest", x.slows(1, 1), 9);
+        x = Check.of("p50000", "9*(v>0)");
+        Check.that("0 alone", x.slows(1, 1), 0);
+        Check.row("0 alone", x, 1, 0);
         x = Check.of("p90000;p90000;p90000;p90000;p90000;p90000;p90000", "");
         Check.that("all seven", x.slows(7, 60), 9);
         Check.row("all seven", x, 7, 7);
