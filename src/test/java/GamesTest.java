@@ -142,9 +142,9 @@ public final class GamesTest {
         Check.row("years() of one, 4", one, 1, 99);
         Check.that("years() of one, 5", one.years(1, 5), 3);
         Check.row("years() of one, 5", one, 1, 92);
-        StreamersHeld x = Check.of("p50304;g79915;b99902", "k/9");
+        String lines = "p50304;g79915;b99902";
         for (int seed : new int[] {0, 1, -1, 77, Integer.MIN_VALUE, Integer.MAX_VALUE}) {
-            StreamersHeld y = Check.of("p50304;g79915;b99902", "k/9");
+            StreamersHeld y = Check.of(lines, "k/9");
             long r = seed;
             for (int i = 0; i < 60; i++) {
                 r = next(r);
@@ -159,11 +159,12 @@ public final class GamesTest {
                     int done = kind == 2 ? y.rates(who, v) : y.runs(who, v);
                     Check.that("years() may draw it", done == -1, false);
                 }
+                StreamersHeld x = Check.of(lines, "k/9");
                 Check.that("years(" + seed + ")", x.years(seed, i + 1), y.count(2));
                 Check.row("years(" + seed + ")", x, y.count(1), y.count(6));
+                Check.that("nothing was done", x.count(2) + x.count(4) + x.count(10), 0);
             }
         }
-        Check.that("nothing was done", x.count(2) + x.count(4) + x.count(10), 0);
     }
 
     private static long next(long r) {

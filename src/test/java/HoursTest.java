@@ -326,21 +326,29 @@ public final class HoursTest {
         Check.that("forgets", x.undo(), -1);
     }
 
-    private static void promise15AllOfIt() {
+    /** One HOLDS, one is DROPPED, one is BROKEN; four acts can be undone. */
+    private static StreamersHeld threeFates() {
         StreamersHeld x = Check.of("p50534;g72015;b90002", "99*(s=9)*(n=1)");
         x.hours(2);
         x.drops(1);
         x.rates(0, 4);
         x.speed(8);
+        return x;
+    }
+
+    private static void promise15AllOfIt() {
+        StreamersHeld x = threeFates();
         String was = all(x);
         Check.that("one BROKEN, one DROPPED", x.count(5) * 10 + x.count(1), 41);
         for (int act = 0; act < 7; act++) {
+            x = threeFates();
             Check.that("act " + act, act(x, act) >= 0, true);
             Check.that("it is otherwise", all(x).equals(was), false);
             Check.that("four and one", x.count(10), 5);
             Check.that("act " + act + " undone", x.undo(), 4);
             Check.that("as ahead of it", all(x), was);
         }
+        x = threeFates();
         x.keep(1);
         act(x, 0);
         act(x, 3);

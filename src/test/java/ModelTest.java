@@ -9,7 +9,10 @@ import java.util.Map;
 import java.util.Random;
 import java.util.TreeSet;
 
-/** Long runs of calls, the same on the class and on the model; and the face itself. */
+/**
+ * Promises 1 to 53 and both terms: long runs of drawn calls, the same on the class and on the
+ * model, none of more than the 512 calls that an object is used for; and the face itself.
+ */
 public final class ModelTest {
     /** Of each call, from which numbers each argument mostly comes. */
     private static final String[] CALLS = {
@@ -30,12 +33,16 @@ public final class ModelTest {
     private static final int[] STRANGE = {-1, -2, 0, 7, 8, 10, 11, 13, 21, 61, 64, 100, -100,
         10000, 65536, Integer.MAX_VALUE, Integer.MIN_VALUE};
     private static final String NAMES = "ksrpvcn";
+    private static final int MOST_CALLS = 512;
+    private static final int CALLS_OF_A_TEXT = 23;
+    private static final int CALLS_OF_A_LOOK = 13 + 7 + 63;
 
     private final Random random;
     private final StreamersHeld held = new StreamersHeld();
     private final Model model = new Model();
     private final StringBuilder past = new StringBuilder();
     private boolean same = true;
+    private int made = 0;
 
     private ModelTest(long seed) {
         random = new Random(seed);
@@ -43,8 +50,8 @@ public final class ModelTest {
 
     public static void main(String[] args) throws Exception {
         face();
-        for (int seed = 0; seed < 700; seed++) {
-            new ModelTest(seed).run(seed % 20 == 0 ? 400 : 80);
+        for (int seed = 0; seed < 4000; seed++) {
+            new ModelTest(seed).run();
         }
         Check.close("ModelTest");
     }
@@ -83,22 +90,32 @@ public final class ModelTest {
         }
     }
 
-    private void run(int calls) throws Exception {
+    /** Most looks at the state come late, so that there are calls enough ahead of them. */
+    private void run() throws Exception {
+        int lookFrom = random.nextInt(MOST_CALLS - CALLS_OF_A_LOOK);
         if (random.nextInt(10) > 0) {
             text(lines());
             call("streamers");
             text(random.nextBoolean() ? gentle() : expression(2));
             call("rule");
         }
-        for (int i = 0; i < calls && same; i++) {
+        while (same && made <= MOST_CALLS - CALLS_OF_A_TEXT - CALLS_OF_A_LOOK) {
             int kind = random.nextInt(CALLS.length + 12);
             if (kind < CALLS.length) {
                 callOf(CALLS[kind]);
             } else {
                 textCall(kind - CALLS.length);
             }
-            compareState(i);
+            if (made > lookFrom || random.nextInt(40) == 0) {
+                compareState();
+            } else if (random.nextInt(3) == 0) {
+                compareRow();
+            }
         }
+        if (made <= MOST_CALLS - CALLS_OF_A_LOOK) {
+            compareState();
+        }
+        Check.that("no more calls than an object is used for", made <= MOST_CALLS, true);
     }
 
     private void textCall(int kind) throws Exception {
@@ -142,6 +159,7 @@ public final class ModelTest {
         Class<?>[] types = new Class<?>[args.length];
         Arrays.fill(types, int.class);
         String got = answer(StreamersHeld.class.getMethod(name, types), held, args);
+        made++;
         String want = answer(Model.class.getMethod(name, types), model, args);
         past.append(name).append(Arrays.toString(args)).append(" = ").append(want).append("; ");
         compare(name + Arrays.toString(args), got, want);
@@ -163,25 +181,30 @@ public final class ModelTest {
         Check.that(what, got, want);
     }
 
-    private void compareState(int i) {
-        StringBuilder got = new StringBuilder();
-        StringBuilder want = new StringBuilder();
+    private void compareState() throws Exception {
         for (int what = 0; what <= 12; what++) {
-            got.append(held.count(what)).append(' ');
-            want.append(model.count(what)).append(' ');
+            look("count", what);
         }
-        for (int at = 0; at < model.count(11); at++) {
-            got.append(Check.rowThrows(held, at) ? "throws" : "" + held.row(at)).append(' ');
-            want.append(model.row(at)).append(' ');
-        }
-        for (int s = 0; i % 3 == 0 && s < model.count(0); s++) {
+        compareRow();
+        for (int s = 0; s < model.count(0); s++) {
             for (int what = 0; what <= 8; what++) {
-                boolean none = Check.streamerThrows(held, s, what);
-                got.append(none ? "throws" : "" + held.streamer(s, what)).append(' ');
-                want.append(model.streamer(s, what)).append(' ');
+                look("streamer", s, what);
             }
         }
-        compare("the state", got.toString(), want.toString());
+    }
+
+    private void compareRow() throws Exception {
+        for (int at = 0; at < model.count(11); at++) {
+            look("row", at);
+        }
+    }
+
+    private void look(String name, Object... args) throws Exception {
+        int length = past.length();
+        call(name, args);
+        if (same) {
+            past.setLength(length);
+        }
     }
 
     private void text(String t) throws Exception {

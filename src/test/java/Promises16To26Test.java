@@ -482,10 +482,18 @@ public final class Promises16To26Test {
         Check.row("as it is none would", x, 7, 0);
     }
 
-    private static int weight(StreamersHeld x, int set) {
+    private static int[] strengths(StreamersHeld x) {
+        int[] strengths = new int[x.count(0)];
+        for (int i = 0; i < strengths.length; i++) {
+            strengths[i] = x.streamer(i, 1);
+        }
+        return strengths;
+    }
+
+    private static int weight(int[] strengths, int set) {
         int sum = 0;
-        for (int i = 0; i < x.count(0); i++) {
-            sum += (set >> i & 1) * x.streamer(i, 1);
+        for (int i = 0; i < strengths.length; i++) {
+            sum += (set >> i & 1) * strengths[i];
         }
         return sum;
     }
@@ -497,11 +505,13 @@ public final class Promises16To26Test {
             for (int speed = 0; speed <= 9; speed++) {
                 StreamersHeld x = world(number);
                 x.speed(speed);
+                int[] strengths = strengths(x);
+                int holding = x.count(1);
                 int best = -1;
                 for (int set = 127; set >= 0; set--) {
-                    boolean hold = (set & ~x.count(1)) == 0;
+                    boolean hold = (set & ~holding) == 0;
                     boolean few = best < 0 || bits(set) <= bits(best);
-                    best = hold && few && weight(x, set) / 5 >= speed ? set : best;
+                    best = hold && few && weight(strengths, set) / 5 >= speed ? set : best;
                 }
                 if (best < 0) {
                     none(x, "halts");

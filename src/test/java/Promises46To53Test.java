@@ -291,24 +291,37 @@ public final class Promises46To53Test {
 
     static void p50Keep() {
         Check.promise(50, "What undo() brings back is kept under a number 0 .. 2: true.");
-        StreamersHeld x = Check.of(THREE, "99*(s=5)*(n=1)");
         String[] kept = new String[3];
         for (int i = 0; i < 3; i++) {
-            x.hours(i);
-            x.runs(i, 9 - i);
-            x.rates(i, 9 - i);
-            x.speed(i);
-            x.drops(1);
-            kept[i] = Check.ship(x);
-            String was = Check.state(x);
-            Check.that("keep(" + i + ")", x.keep(i), true);
-            Check.that("keep() changes nothing", Check.state(x), was);
+            StreamersHeld y = keptUpTo(i);
+            kept[i] = Check.ship(y);
+            String was = Check.state(y);
+            Check.that("keep(" + i + ")", y.keep(i), true);
+            Check.that("keep() changes nothing", Check.state(y), was);
         }
+        StreamersHeld x = keptUpTo(2);
+        x.keep(2);
         for (int i : new int[] {2, 0, 1, 0, 2}) {
             x.hours(5);
             Check.that("again(" + i + ")", x.again(i), true);
             Check.that("as it was kept", Check.ship(x), kept[i]);
         }
+    }
+
+    /** As it was, told apart by each number, ahead of the keep() of one; those below are kept. */
+    private static StreamersHeld keptUpTo(int number) {
+        StreamersHeld x = Check.of(THREE, "99*(s=5)*(n=1)");
+        for (int i = 0; i <= number; i++) {
+            if (i > 0) {
+                x.keep(i - 1);
+            }
+            x.hours(i);
+            x.runs(i, 9 - i);
+            x.rates(i, 9 - i);
+            x.speed(i);
+            x.drops(1);
+        }
+        return x;
     }
 
     static void p50NotColourAndStrength() {

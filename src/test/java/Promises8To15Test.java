@@ -410,27 +410,38 @@ public final class Promises8To15Test {
 
     static void p15SuchAsWereDone() {
         Check.promise(15, "such as were done;");
-        StreamersHeld x = three();
-        String[] ships = new String[15];
-        for (int i = 0; i < 15; i++) {
-            ships[i] = Check.ship(x);
-            x.speed(i % 2 == 0 ? 4 : 5);
-        }
+        StreamersHeld x = fifteen();
         Check.that("15", x.count(10), 15);
         String was = Check.state(x);
         String[] calls = {"hours 61", "runs 0 4", "runs 0 10", "rates 0 0", "rates 5 1",
             "reels 0 97", "reels 0 0", "drops 0", "drops 3", "speed 4", "speed 10"};
         for (String call : calls) {
+            x = fifteen();
             Check.that(call, Check.call(x, call) < 0, true);
             Check.that(call + " is none", Check.state(x), was);
         }
+        x = fifteen();
+        for (String call : calls) {
+            Check.call(x, call);
+        }
         Check.that("a sailing of none", sailing(x, "s4n9"), 0);
         Check.that("a sailing that can't be", sailing(x, "s9?"), -3);
+        Check.that("all of it is none", Check.state(x), was);
         for (int left = 14; left >= 0; left--) {
             Check.that("undo()", x.undo(), left);
-            Check.that("as ahead of it", Check.ship(x), ships[left]);
+            Check.that("SPEED as ahead of it", x.count(3), left == 0 ? 3 : 4 + (left + 1) % 2);
         }
+        Check.that("all as ahead of them", Check.ship(x), Check.ship(three()));
         Check.that("no more", x.undo(), -1);
+    }
+
+    /** The three with 15 acts that can be undone, all of them speed(), 4 and 5 by turns. */
+    private static StreamersHeld fifteen() {
+        StreamersHeld x = three();
+        for (int i = 0; i < 15; i++) {
+            x.speed(i % 2 == 0 ? 4 : 5);
+        }
+        return x;
     }
 
     static void p15SailingAsOne() {

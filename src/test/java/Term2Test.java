@@ -259,17 +259,17 @@ public final class Term2Test {
 
     static void atMost512Calls() {
         Check.beginning("An object is used for at most 512 calls after it has been made");
-        StreamersHeld x = Check.of(THREE, "0");
-        int calls = 7;
+        StreamersHeld x = new StreamersHeld();
+        int calls = 0;
         for (; calls < 500; calls++) {
             x.hours(calls % 2);
         }
-        Check.that("HOUR behind 500 calls", x.count(4), 247);
+        Check.that("the 501st: HOUR behind 500 calls", x.count(4), 250);
         for (int left = 14; left >= 7; left--) {
-            Check.that("undo() late", x.undo(), left);
+            Check.that("the 502nd to the 509th: undo()", x.undo(), left);
         }
         Check.that("the 510th", x.count(10), 7);
-        Check.that("the 511th", x.drops(0), 2);
+        Check.that("the 511th", x.speed(9), 13);
         Check.that("the 512th", x.undo(), 7);
     }
 }
